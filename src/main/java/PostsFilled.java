@@ -31,7 +31,7 @@ public final class PostsFilled {
     private final Person[] crew = new Person[MOST_PEOPLE];
     private int crewSize = 0;
 
-    private final Reader reader = new Reader();
+    private final Reader reader;
     private final Text[] texts = new Text[MOST_TEXTS];
     private int textsSize = 0;
     private int rule = 0;
@@ -57,6 +57,7 @@ public final class PostsFilled {
         for (int i = 0; i < MOST_SHEETS; i++) {
             sheets[i] = new Sheet();
         }
+        reader = new Reader(texts[0]);
         for (int i = 0; i < FIRST_RULE.length(); i++) {
             reader.take(FIRST_RULE.charAt(i));
         }
@@ -93,7 +94,7 @@ public final class PostsFilled {
             return BAD;
         }
         Person one = crew[person];
-        if (one.barred[post] || one.own == post) {
+        if (one.isBarred(post) || one.own == post) {
             return STATE;
         }
         one.last[post] = office.year;
@@ -105,8 +106,8 @@ public final class PostsFilled {
             return BAD;
         }
         Person one = crew[person];
-        int was = one.barred[post] ? 1 : 0;
-        one.barred[post] = is == 1;
+        int was = one.isBarred(post) ? 1 : 0;
+        one.setBar(post, is == 1);
         return was;
     }
 
@@ -220,8 +221,8 @@ public final class PostsFilled {
     public int ring() {
         lookWhoCan();
         for (int i = 0; i < crewSize; i++) {
-            int next = crew[(i + 1) % crewSize].own;
-            if (!crew[i].barred[next]) {
+            int next = crew[i + 1 < crewSize ? i + 1 : 0].own;
+            if (!crew[i].isBarred(next)) {
                 cover.able[next] |= 1 << i;
             }
         }
@@ -305,7 +306,7 @@ public final class PostsFilled {
         for (int i = 0; i < crewSize; i++) {
             Person one = crew[i];
             for (int q = 0; q < office.size; q++) {
-                if (one.barred[q] || !one.recalls(q, office.year)) {
+                if (one.isBarred(q) || !one.recalls(q, office.year)) {
                     continue;
                 }
                 int more = one.keeps() - one.since(q, office.year);
@@ -375,7 +376,7 @@ public final class PostsFilled {
             case 3: return textsSize;
             case 4: return reader.size;
             case 5: return rule;
-            case 6: return Integer.bitCount(office.mustSet());
+            case 6: return Integer.bitCount(office.must);
             case 7: return lessonsOfAll();
             default: return BAD;
         }
@@ -534,7 +535,7 @@ public final class PostsFilled {
     }
 
     private void lookWhoCan() {
-        cover.must = office.mustSet();
+        cover.must = office.must;
         for (int q = 0; q < MOST_POSTS; q++) {
             cover.able[q] = 0;
         }
@@ -558,7 +559,7 @@ public final class PostsFilled {
 
     private void lookAtGains(int there) {
         plan.posts = office.size;
-        plan.must = office.mustSet();
+        plan.must = office.must;
         for (int q = 0; q < office.size; q++) {
             for (int i = 0; i < crewSize; i++) {
                 boolean may = (there >> i & 1) == 1 && crew[i].can(q, office);
@@ -598,7 +599,7 @@ public final class PostsFilled {
     private void offerLessons() {
         for (int i = 0; i < crewSize; i++) {
             for (int q = 0; q < office.size; q++) {
-                if (!crew[i].barred[q] && !crew[i].can(q, office)) {
+                if (!crew[i].isBarred(q) && !crew[i].can(q, office)) {
                     course.offer(10 * i + q, costOf(crew[i], q), cover.helpedBy(i, q));
                 }
             }
@@ -627,7 +628,7 @@ public final class PostsFilled {
     /** What can't be so at a post, of which who is free still tells; NONE: nothing. */
     private int wrongAt(int post, int who, int free) {
         if (who == NONE) {
-            return office.must[post] ? 30 + post : NONE;
+            return office.needs(post) ? 30 + post : NONE;
         }
         if (!isPerson(who) || (free >> who & 1) == 0) {
             return 10 + post;
@@ -638,7 +639,8 @@ public final class PostsFilled {
     /** The posts, and the year that all reckon by. */
     private static final class Office {
         int size = 0;
-        final boolean[] must = new boolean[MOST_POSTS];
+        /** The posts that must be filled (bits). */
+        int must = 0;
         final int[] value = new int[MOST_POSTS];
         int year = 0;
 
@@ -646,24 +648,20 @@ public final class PostsFilled {
             return post >= 0 && post < size;
         }
 
+        boolean needs(int post) {
+            return (must >> post & 1) == 1;
+        }
+
         int open(boolean mustBeFilled, int worth) {
             if (size >= MOST_POSTS) {
                 return FULL;
             }
-            must[size] = mustBeFilled;
+            if (mustBeFilled) {
+                must |= 1 << size;
+            }
             value[size] = worth;
             size++;
             return size - 1;
-        }
-
-        int mustSet() {
-            int set = 0;
-            for (int q = 0; q < size; q++) {
-                if (must[q]) {
-                    set |= 1 << q;
-                }
-            }
-            return set;
         }
     }
 
@@ -686,11 +684,12 @@ public final class PostsFilled {
         int asked = 0;
         /** The year in which each post was taught or, being taught, done last. */
         final int[] last = new int[MOST_POSTS];
-        final boolean[] barred = new boolean[MOST_POSTS];
+        /** The posts from which it is barred (bits). */
+        private int bars = 0;
 
         private int savedAsked = 0;
         private final int[] savedLast = new int[MOST_POSTS];
-        private final boolean[] savedBarred = new boolean[MOST_POSTS];
+        private int savedBars = 0;
 
         Person() {
             Arrays.fill(last, NEVER);
@@ -723,6 +722,14 @@ public final class PostsFilled {
             return kind == NEW ? years - 1 : years;
         }
 
+        boolean isBarred(int post) {
+            return (bars >> post & 1) == 1;
+        }
+
+        void setBar(int post, boolean is) {
+            bars = is ? bars | 1 << post : bars & ~(1 << post);
+        }
+
         int since(int post, int year) {
             return last[post] == NEVER ? MOST_YEARS : year - last[post];
         }
@@ -732,7 +739,7 @@ public final class PostsFilled {
         }
 
         boolean can(int post, Office office) {
-            if (barred[post]) {
+            if (isBarred(post)) {
                 return false;
             }
             if (post == own || recalls(post, office.year)) {
@@ -741,7 +748,7 @@ public final class PostsFilled {
             if (isA(HAND) && Math.abs(post - own) == 1) {
                 return true;
             }
-            if (kind == PORTER && !office.must[post]) {
+            if (kind == PORTER && !office.needs(post)) {
                 return true;
             }
             return kind == CHIEF && office.value[post] > 50;
@@ -790,21 +797,21 @@ public final class PostsFilled {
             names[0] = post == own ? 1 : 0;
             names[1] = number;
             names[2] = since(post, office.year);
-            names[3] = office.must[post] ? 1 : 0;
+            names[3] = office.needs(post) ? 1 : 0;
             names[4] = office.value[post];
             names[5] = lessonsHad();
         }
 
         void save() {
             savedAsked = asked;
+            savedBars = bars;
             System.arraycopy(last, 0, savedLast, 0, MOST_POSTS);
-            System.arraycopy(barred, 0, savedBarred, 0, MOST_POSTS);
         }
 
         void restore() {
             asked = savedAsked;
+            bars = savedBars;
             System.arraycopy(savedLast, 0, last, 0, MOST_POSTS);
-            System.arraycopy(savedBarred, 0, barred, 0, MOST_POSTS);
         }
     }
 
@@ -862,60 +869,36 @@ public final class PostsFilled {
             int top = 0;
             for (int i = part == 0 ? 0 : ends[part - 1]; i < ends[part]; i++) {
                 int step = steps[i];
-                if (step < NOT) {
-                    top = push(top, step < NAME_0 ? step : nameOf(step, names));
-                } else if (step <= NEGATE) {
-                    top = changeOne(top, step);
-                } else {
-                    top = joinTwo(top, step);
+                if (step < NOT && top < MOST_WAITING) {
+                    stack[top] = pushed(step, names);
+                    top++;
+                } else if (step == NOT && top >= 1) {
+                    stack[top - 1] = stack[top - 1] == 0 ? 1 : 0;
+                } else if (step == NEGATE && top >= 1) {
+                    stack[top - 1] = -stack[top - 1];
+                } else if (step > NEGATE && top >= 2) {
+                    top--;
+                    stack[top - 1] = joined(step, stack[top - 1], stack[top]);
                 }
             }
             return stack[0];
         }
 
-        private static int nameOf(int step, int[] names) {
-            int n = step - NAME_0;
-            return n >= 0 && n < names.length ? names[n] : 0;
-        }
-
-        private int push(int top, int value) {
-            if (top >= stack.length) {
-                return top;
-            }
-            stack[top] = value;
-            return top + 1;
-        }
-
-        private int changeOne(int top, int step) {
-            if (top >= 1) {
-                int value = stack[top - 1];
-                stack[top - 1] = step == NEGATE ? -value : truth(value == 0);
-            }
-            return top;
-        }
-
-        private int joinTwo(int top, int step) {
-            if (top < 2) {
-                return top;
-            }
-            stack[top - 2] = joined(step, stack[top - 2], stack[top - 1]);
-            return top - 1;
+        private static int pushed(int step, int[] names) {
+            int name = step - NAME_0;
+            return name >= 0 && name < names.length ? names[name] : step;
         }
 
         private static int joined(int step, int left, int right) {
             switch (step) {
-                case OR: return truth(left != 0 || right != 0);
-                case AND: return truth(left != 0 && right != 0);
-                case LESS: return truth(left < right);
-                case LIKE: return truth(left == right);
+                case OR: return left != 0 || right != 0 ? 1 : 0;
+                case AND: return left != 0 && right != 0 ? 1 : 0;
+                case LESS: return left < right ? 1 : 0;
+                case LIKE: return left == right ? 1 : 0;
                 case PLUS: return left + right;
                 case MINUS: return left - right;
                 default: return left * right;
             }
-        }
-
-        private static int truth(boolean is) {
-            return is ? 1 : 0;
         }
     }
 
@@ -936,12 +919,16 @@ public final class PostsFilled {
         int size = 0;
         private final int[] tape = new int[MOST_BYTES];
 
-        private Text target = null;
+        private Text target;
         private int next = 0;
         private int token = END;
         private int start = 0;
         private int number = 0;
         private int fault = NONE;
+
+        Reader(Text first) {
+            target = first;
+        }
 
         void take(int oneByte) {
             if (size < MOST_BYTES) {
@@ -952,9 +939,6 @@ public final class PostsFilled {
 
         /** Reads the tape, which is empty then, into a text; answers the place of its fault, or NONE. */
         int read(Text into) {
-            if (into == null) {
-                return 0;
-            }
             target = into;
             target.clear();
             next = 0;
@@ -1158,18 +1142,23 @@ public final class PostsFilled {
         private final int[] reach = new int[SETS];
 
         void spread() {
-            for (int set = 1; set < SETS; set++) {
-                int lowest = Integer.numberOfTrailingZeros(set);
-                reach[set] = reach[set & (set - 1)] | (lowest < MOST_POSTS ? able[lowest] : 0);
+            for (int q = 0; q < MOST_POSTS; q++) {
+                int alone = 1 << q;
+                for (int lower = 0; lower < alone; lower++) {
+                    reach[alone + lower] = reach[lower] | able[q];
+                }
             }
         }
 
         int tooFew(int there) {
             int found = NONE;
             int fewest = MOST_POSTS + 1;
-            for (int set = 1; set <= must; set++) {
+            for (int set = 1; set <= must && set < SETS; set++) {
+                if ((set & ~must) != 0) {
+                    continue;
+                }
                 int posts = Integer.bitCount(set);
-                if ((set & ~must) == 0 && posts < fewest && Integer.bitCount(reach[set] & there) < posts) {
+                if (posts < fewest && Integer.bitCount(reach[set] & there) < posts) {
                     found = set;
                     fewest = posts;
                 }
@@ -1188,9 +1177,11 @@ public final class PostsFilled {
          */
         long lacking(int many, int least) {
             long sets = 0;
-            for (int set = 1; set <= must; set++) {
-                boolean lacks = Integer.bitCount(set) + many - Integer.bitCount(reach[set]) >= least;
-                if ((set & ~must) == 0 && lacks) {
+            for (int set = 1; set <= must && set < SETS; set++) {
+                if ((set & ~must) != 0) {
+                    continue;
+                }
+                if (Integer.bitCount(set) + many - Integer.bitCount(reach[set]) >= least) {
                     sets |= 1L << set;
                 }
             }
