@@ -359,7 +359,7 @@ public final class PostsFilled {
         if (!hasImage) {
             return STATE;
         }
-        // Who came since is not in the image and so stays untouched.
+        // Who came since is not in the image, so all that it has stays.
         for (int i = 0; i < imageCrewSize; i++) {
             crew[i].restore();
         }
@@ -606,7 +606,7 @@ public final class PostsFilled {
         }
     }
 
-    /** How likely just these are away, in tenths of tenths .. of tenths, as many as people. */
+    /** How likely just these are away: above a line below which stands 10 for each of the people. */
     private long tenthsOf(int away) {
         long product = 1;
         for (int i = 0; i < crewSize; i++) {
@@ -625,7 +625,7 @@ public final class PostsFilled {
         return a;
     }
 
-    /** What can't be so at a post, of which who is free still tells; NONE: nothing. */
+    /** What can't be so with one (or NONE) at a post while these are free still; NONE: nothing. */
     private int wrongAt(int post, int who, int free) {
         if (who == NONE) {
             return office.needs(post) ? 30 + post : NONE;
@@ -676,6 +676,7 @@ public final class PostsFilled {
         /** Of each kind the one it is under. */
         private static final int[] UNDER = {-1, 0, 0, 1, 2, 0};
         private static final int NEVER = -1;
+        private static final int YEARS_SINCE_NEVER = 99;
 
         int kind = 0;
         int own = 0;
@@ -731,7 +732,7 @@ public final class PostsFilled {
         }
 
         int since(int post, int year) {
-            return last[post] == NEVER ? MOST_YEARS : year - last[post];
+            return last[post] == NEVER ? YEARS_SINCE_NEVER : year - last[post];
         }
 
         boolean recalls(int post, int year) {
@@ -907,7 +908,7 @@ public final class PostsFilled {
         private static final int MOST_OPEN = 5;
         private static final int MOST_DIGITS = 4;
 
-        // Tokens below these are words, by their place in Text.WORDS; signs are their own bytes.
+        // A word's token is its place in Text.WORDS, a sign's its own byte; these lie between.
         private static final int WORD_WELL = 6;
         private static final int WORD_OR = 9;
         private static final int WORD_AND = 10;
