@@ -61,6 +61,17 @@ public final class DonePaidTest {
         DUE.is("even of two", x.even(), 2);
         x.person(0, 100);
         DUE.is("even of three", x.even(), 2);
+        PostsFilled y = new PostsFilled();
+        y.post(1, 10);
+        y.post(1, 10);
+        y.person(0, 100);
+        y.person(1, 100);
+        y.done(0);
+        DUE.is("even, the first is the least", y.even(), 1);
+        y.bar(0, 1, 1);
+        y.teach(0, 0);
+        y.done(0);
+        DUE.is("even, all were asked", y.even(), 0);
     }
 
     private static void pay() {
@@ -198,8 +209,17 @@ public final class DonePaidTest {
         DUE.is("back once more", x.back(), 1);
         DUE.is("the image was not touched", x.told(0, 0, 7), 1);
         x.years(5);
+        x.force(1);
+        x.bar(1, 0, 1);
+        x.teach(1, 1);
+        x.done(0);
         DUE.is("a new image", x.image(), 6);
+        x.force(0);
+        x.bar(1, 0, 0);
         DUE.is("back to it", x.back(), 6);
+        DUE.is("its rule", x.count(5), 1);
+        DUE.is("its bars", x.told(1, 0, 7), 0);
+        DUE.is("its asked", x.told(1, 0, 6), 1);
     }
 
     private static void whoCameSince() {

@@ -119,6 +119,7 @@ public final class FillingsTest {
         DUE.is("two who leave no filling", x.worst(2, 0), 1 + 8);
         DUE.is("three: the least", x.worst(3, 0), 1 + 2 + 8);
         DUE.is("five there are not", x.worst(5, 0), NONE);
+        DUE.is("seven there are not", x.worst(7, 0), NONE);
         DUE.is("lack of nobody", x.worst(0, 1), 0);
         DUE.is("lack of one", x.worst(1, 1), 2);
         DUE.is("lack of two", x.worst(2, 1), 2 + 4);

@@ -57,6 +57,8 @@ public final class TextsTest {
         fault("well 1 2345678;", 7);
         fault("well owns; cost 1; pay 1;", 5);
         fault("well ow; cost 1; pay 1;", 5);
+        fault("well ownz; cost 1; pay 1;", 5);
+        fault("well aown; cost 1; pay 1;", 5);
         fault("well ownnumber;", 5);
         fault("well Own;", 5);
         fault("well\t1;", 4);
@@ -168,6 +170,7 @@ public final class TextsTest {
         value("3 < 4", 1);
         value("4 < 4", 0);
         value("4 = 4", 1);
+        value("4 = 5", 0);
         value("-4 < 3", 1);
         value("1 + 1 = 2 and 7", 1);
         value("(3 < 4) * 9", 9);
