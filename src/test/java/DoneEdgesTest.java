@@ -234,6 +234,34 @@ public final class DoneEdgesTest {
         E.is("21: all forgotten", x.first(), NONE);
     }
 
+    private static void theYearInWhichItWasTaught() {
+        PostsFilled x = new PostsFilled();
+        musts(x, 3);
+        x.person(0, 0);
+        x.person(0, 0);
+        x.teach(1, 2);
+        x.years(1);
+        x.teach(0, 1);
+        E.is("21: taught a year earlier, one year more", x.first(), 12);
+        x.teach(1, 2);
+        E.is("21: taught anew, two years more: the least one", x.first(), 1);
+        x.years(1);
+        x.teach(0, 1);
+        E.is("21: the other taught anew", x.first(), 12);
+        x.teach(0, 2);
+        x.teach(1, 1);
+        E.is("21: later ones that are kept longer do not matter", x.first(), 12);
+        x.years(2);
+        E.is("21: that one is forgotten", x.first(), 1);
+        x.years(1);
+        E.is("21: all are forgotten", x.first(), NONE);
+        x.teach(0, 1);
+        x.years(1);
+        x.teach(0, 2);
+        x.teach(1, 1);
+        E.is("21: the first is kept the fewest years more", x.first(), 1);
+    }
+
     private static void leastOneThenPost() {
         PostsFilled x = new PostsFilled();
         musts(x, 4);
@@ -302,6 +330,23 @@ public final class DoneEdgesTest {
         judged("the earlier post can't be told by the later one", 0, 12, 2, 0, 0);
     }
 
+    private static void eachPostThatMust() {
+        for (int must = 0; must < 6; must++) {
+            PostsFilled x = new PostsFilled();
+            for (int q = 0; q < 6; q++) {
+                x.post(q == must ? 1 : 0, 5);
+            }
+            x.person(0, 100 * must);
+            Due.row(x, 0, 0, -1, -1, -1, -1, -1, -1);
+            E.is("22: 30 and post", x.judge(0, 0), 30 + must);
+            x.cell(0, must, 0);
+            E.is("22: filled", x.judge(0, 0), NONE);
+            E.is("22: 10 and post", x.judge(1, 0), 10 + must);
+            x.bar(0, must, 1);
+            E.is("22: 20 and post", x.judge(0, 0), 20 + must);
+        }
+    }
+
     private static void judgeRefuses() {
         for (int no : new int[] {-1, 4, FAR, DEEP}) {
             E.leavesAll("22: sheet " + no, Edge::busy, x -> x.judge(0, no), BAD);
@@ -368,6 +413,30 @@ public final class DoneEdgesTest {
             Edge.busy(x);
             x.image();
         }, PostsFilled::image, 2);
+    }
+
+    private static void imageOfSeven() {
+        E.leavesAll("23, 24: image and back of seven people", x -> {
+            Edge.full(x);
+            x.image();
+        }, PostsFilled::back, 99);
+        E.answers("23: image of seven people", Edge::full, PostsFilled::image, 99);
+    }
+
+    /** Going back ahead of the year in which one who came since was taught. */
+    private static void taughtInAYearToCome() {
+        PostsFilled x = new PostsFilled();
+        musts(x, 2);
+        x.image();
+        x.years(5);
+        x.person(0, 0);
+        x.teach(0, 1);
+        E.is("24: back", x.back(), 0);
+        E.is("24: what it was taught stays", x.told(0, 1, 7), 1);
+        x.years(7);
+        E.is("24: it was taught in year 5, and keeps it till 7", x.told(0, 1, 7), 1);
+        x.years(1);
+        E.is("24: and no longer", x.told(0, 1, 7), 0);
     }
 
     private static void theLaterImageIsKept() {
@@ -502,13 +571,17 @@ public final class DoneEdgesTest {
         payOfItsOwnPost();
         firstAnswers();
         fewestYearsMore();
+        theYearInWhichItWasTaught();
         leastOneThenPost();
         judgeAnswers();
+        eachPostThatMust();
         judgeRefuses();
         judgeAgreesWithFill();
         backWithoutImage();
         imageAnswersYears();
         backAtOnceLeavesAll();
+        imageOfSeven();
+        taughtInAYearToCome();
         theLaterImageIsKept();
         whatAnImageKeeps();
         whatWasForgottenComesBack();

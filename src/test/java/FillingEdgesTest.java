@@ -254,6 +254,10 @@ public final class FillingEdgesTest {
                 E.answers("14: lack of " + m + " of " + n, making, x -> x.worst(many, 1), lack);
             }
         }
+        E.answers("13: what may stand empty needs nobody", x -> {
+            posts(x, 0, 5, 1, 5);
+            people(x, 1, 1);
+        }, x -> x.holds(1), 1);
         E.answers("13: nobody away, but there is none", x -> musts(x, 1), x -> x.holds(0), 0);
         E.answers("13: one away of nobody", x -> musts(x, 1), x -> x.holds(1), 1);
     }
@@ -297,6 +301,34 @@ public final class FillingEdgesTest {
         E.is("14: if there is no filling at all", x.worst(0, 1), NONE);
         E.is("14: if there is no filling at all, nobody is the worst", x.worst(0, 0), 0);
         E.is("14: of one the least", x.worst(1, 0), 1);
+    }
+
+    private static void lackIsNotTheFirst() {
+        PostsFilled x = with(y -> {
+            posts(y, 0, 30, 0, 40, 0, 50, 0, 40);
+            people(y, 0, 1, 2, 3);
+        });
+        E.is("14: the third of four", x.worst(1, 1), 4);
+        E.is("14: of like ones the least as bits", x.worst(2, 1), 6);
+        E.is("14: all but the first", x.worst(3, 1), 14);
+        E.is("14: all may be away", x.worst(4, 1), 15);
+        E.is("14: five there are not", x.worst(5, 1), NONE);
+        E.is("14: none leaves no filling", x.worst(4, 0), NONE);
+        PostsFilled z = with(y -> {
+            posts(y, 0, 50, 0, 40);
+            people(y, 0, 1);
+        });
+        E.is("14: the first, though a later one comes to more", z.worst(1, 1), 1);
+        PostsFilled w = with(y -> {
+            posts(y, 0, 5);
+            people(y, new int[7]);
+        });
+        E.is("14: seven of seven", w.worst(7, 1), 127);
+        E.is("14: six of seven, of like ones the least as bits", w.worst(6, 1), 63);
+        E.is("14: seven of seven leave no filling", with(y -> {
+            musts(y, 1);
+            people(y, new int[7]);
+        }).worst(7, 0), 127);
     }
 
     // ---- 15: lessons
@@ -394,6 +426,26 @@ public final class FillingEdgesTest {
             three.of(x);
             x.teach(1, 1);
         }, 1, 1, 22, 21);
+        lessons("the cheapest, though dearer ones come behind", x -> {
+            posts(x, 1, 10, 1, 20);
+            x.person(0, 20);
+            x.person(0, 10);
+            x.person(0, 0);
+        }, 0, 1, 21, 1);
+        lessons("two: the cheapest together, though dearer ones come behind", x -> {
+            posts(x, 1, 10, 1, 20);
+            x.person(0, 20);
+            x.person(0, 10);
+            x.person(0, 0);
+        }, 1, 2, 43, 111);
+        lessons("one who does the one post already is no help for both", x -> {
+            musts(x, 2);
+            people(x, 0);
+        }, 0, NONE, NONE, NONE);
+        lessons("two lessons of one are no two people", x -> {
+            musts(x, 3);
+            people(x, 0, 0);
+        }, 0, NONE, NONE, NONE);
         lessons("by people ahead of posts", x -> {
             posts(x, 1, 5, 1, 5, 1, 5);
             people(x, 0, 0, 1);
@@ -408,6 +460,42 @@ public final class FillingEdgesTest {
             x.teach(1, 1);
             x.years(3);
         }, 0, 1, 10, 1);
+    }
+
+    /** What was asked before is no part of what is asked now. */
+    private static void askedAgainAfterAChange() {
+        PostsFilled x = with(y -> {
+            posts(y, 1, 10, 1, 20);
+            y.person(0, 20);
+            y.person(0, 10);
+            y.person(0, 0);
+        });
+        E.is("15: the cheapest", x.lessons(0, 2), 1);
+        x.bar(0, 1, 1);
+        E.is("15: if it is barred since, the next", x.lessons(0, 2), 11);
+        x.bar(1, 1, 1);
+        E.is("15: and the next", x.lessons(0, 2), 21);
+        x.bar(2, 1, 1);
+        E.is("15: and none", x.lessons(0, 0), NONE);
+        x.bar(1, 1, 0);
+        E.is("15: not barred any more", x.lessons(0, 1), 22);
+        x.teach(1, 1);
+        E.is("15: taught", x.lessons(0, 0), 0);
+        E.is("15: taught, which", x.lessons(0, 2), 0);
+        x.years(3);
+        E.is("15: forgotten", x.lessons(0, 2), 11);
+        PostsFilled z = with(y -> {
+            posts(y, 1, 10, 1, 20);
+            y.person(0, 0);
+            y.person(0, 0);
+            y.person(0, 20);
+        });
+        E.is("15: two, the cheapest together", z.lessons(1, 2), 121);
+        z.bar(2, 1, 1);
+        E.is("15: two, if one is barred since", z.lessons(1, 2), 111);
+        E.is("15: and what they cost", z.lessons(1, 1), 46);
+        z.bar(1, 1, 1);
+        E.is("15: two are too few", z.lessons(1, 0), NONE);
     }
 
     private static void costsAreBound() {
@@ -578,11 +666,13 @@ public final class FillingEdgesTest {
         worstRefuses();
         leastAsBits();
         lackComesToLeast();
+        lackIsNotTheFirst();
         lessonsRefuses();
         twoAtMost();
         noSuchManyAreAway();
         fewestAheadOfCheapest();
         cheapestThenFirst();
+        askedAgainAfterAChange();
         costsAreBound();
         greatestNumbers();
         ringAnswers();

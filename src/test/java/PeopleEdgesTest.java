@@ -11,6 +11,14 @@ public final class PeopleEdgesTest {
         }
     }
 
+    private static void constants() {
+        E.is("terms: NONE", PostsFilled.NONE, -1);
+        E.is("terms: BAD", PostsFilled.BAD, -2);
+        E.is("terms: STATE", PostsFilled.STATE, -3);
+        E.is("terms: FULL", PostsFilled.FULL, -4);
+        E.is("terms: NO", PostsFilled.NO, -4611686018427387904L);
+    }
+
     // ---- 1: "No POSTS, no PEOPLE; YEAR 0."
 
     private static void newHasNothing() {
@@ -413,6 +421,7 @@ public final class PeopleEdgesTest {
     }
 
     public static void main(String[] args) {
+        constants();
         newHasNothing();
         newIsNotTheOldOne();
         sixPostsAtMost();

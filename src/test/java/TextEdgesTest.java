@@ -180,6 +180,11 @@ public final class TextEdgesTest {
             fault("well 1 + " + key + TAIL, 9);
         }
         fault("well not" + TAIL, 8);
+        fault("well ownz" + TAIL, 5);
+        fault("well owna" + TAIL, 5);
+        fault("well zown" + TAIL, 5);
+        fault("well own{" + TAIL, 8);
+        fault("well own`" + TAIL, 8);
         fault("well a" + TAIL, 5);
         fault("well z" + TAIL, 5);
         fault("w", 0);
@@ -387,6 +392,11 @@ public final class TextEdgesTest {
         E.is("E: text of " + e, Due.text(x, "well " + e + TAIL), 1);
         x.force(1);
         E.is("E: " + e, x.told(1, 1, 8), Math.max(0, Math.min(99, want)));
+        if (want >= -49 && want <= 49) {
+            E.is("E: text of 50 + " + e, Due.text(x, "well 50 + (" + e + ")" + TAIL), 2);
+            x.force(2);
+            E.is("E: 50 + " + e, x.told(1, 1, 8), 50 + want);
+        }
     }
 
     private static void wrapsIn32Bits() {
@@ -408,6 +418,13 @@ public final class TextEdgesTest {
     }
 
     private static void truthIs1Or0() {
+        value("0 or 0", 0);
+        value("0 and 0", 0);
+        value("1 and not 0", 1);
+        value("1 and not 1", 0);
+        value("0 or not 0", 1);
+        value("0 or not 5", 0);
+        value("1 or 0 or not 0", 1);
         value("2 or 0", 1);
         value("0 or 2", 1);
         value("-1 or 0", 1);
