@@ -80,11 +80,13 @@ final class Edge {
         for (int what = 0; what < 8; what++) {
             seen.add((long) x.count(what));
         }
-        for (int p = 0; p < x.count(1); p++) {
+        int posts = x.count(0);
+        int people = x.count(1);
+        for (int p = 0; p < people; p++) {
             for (int what = 0; what < 7; what++) {
                 seen.add((long) x.told(p, 0, what));
             }
-            for (int q = 0; q < x.count(0); q++) {
+            for (int q = 0; q < posts; q++) {
                 for (int what = 7; what < 10; what++) {
                     seen.add((long) x.told(p, q, what));
                 }
@@ -125,7 +127,8 @@ final class Edge {
         seen.add((long) x.count(4));
         x.post(1, 3);
         x.person(0, 47);
-        for (int text = 0; text < x.count(3); text++) {
+        int texts = x.count(3);
+        for (int text = 0; text < texts; text++) {
             seen.add((long) x.force(text));
             seen.add((long) x.told(0, 0, 8));
             seen.add((long) x.told(0, 0, 9));
@@ -140,11 +143,13 @@ final class Edge {
     }
 
     private static void yearsToCome(PostsFilled x, List<Long> seen) {
+        int posts = x.count(0);
+        int people = x.count(1);
         for (int n = 0; n < 6; n++) {
             seen.add((long) x.years(1));
             seen.add((long) x.first());
-            for (int p = 0; p < x.count(1); p++) {
-                for (int q = 0; q < x.count(0); q++) {
+            for (int p = 0; p < people; p++) {
+                for (int q = 0; q < posts; q++) {
                     seen.add((long) x.told(p, q, 7));
                 }
             }
