@@ -1287,7 +1287,7 @@ public final class PostsFilled {
         int price = 0;
         int which = 0;
 
-        /** With nothing asked, no lesson is enough. */
+        /** Until something is sought no lesson is needed, and none costs. */
         void clear() {
             size = 0;
             found = 0;
